@@ -200,8 +200,9 @@ public final class CompactFit {
             return 0;
         }
         int total = 0;
+        int size = sizeOf[handle];
         int place = placeOf[handle];
-        for (int k = 0; k < sizeOf[handle]; k++) {
+        for (int k = 0; k < size; k++) {
             total += words[place + k];
         }
         return total;
@@ -220,8 +221,9 @@ public final class CompactFit {
     public int count(int value) {
         int found = 0;
         for (int handle = 0; handle < HANDLES; handle++) {
+            int size = sizeOf[handle];
             int place = placeOf[handle];
-            for (int k = 0; k < sizeOf[handle]; k++) {
+            for (int k = 0; k < size; k++) {
                 if (words[place + k] == value) {
                     found++;
                 }
@@ -353,16 +355,18 @@ public final class CompactFit {
     }
 
     private void keepWords(int handle) {
+        int size = sizeOf[handle];
         int place = placeOf[handle];
-        for (int k = 0; k < sizeOf[handle]; k++) {
+        for (int k = 0; k < size; k++) {
             spare[k] = words[place + k];
         }
     }
 
     /** Gives the object the first words that were kept; those beyond hold 0. */
     private void restoreWords(int handle, int kept) {
+        int size = sizeOf[handle];
         int place = placeOf[handle];
-        for (int k = 0; k < sizeOf[handle]; k++) {
+        for (int k = 0; k < size; k++) {
             words[place + k] = k < kept ? spare[k] : 0;
         }
     }
@@ -428,8 +432,9 @@ public final class CompactFit {
     private int holeOn(int page, int kind) {
         int start = page * PAGE_WORDS;
         int step = slotWords(kind);
+        int slots = perPage(kind);
         int hole = start;
-        for (int slot = 0; slot < perPage(kind); slot++) {
+        for (int slot = 0; slot < slots; slot++) {
             hole = start + slot * step;
             if (holder[hole] == NONE) {
                 break;
