@@ -292,6 +292,25 @@ public final class ChangesTest {
         }
     }
 
+    /** The page that the object leaves is the only one that its new class can have. */
+    private static void resizeWhenAllPagesAreNeeded() {
+        for (int pages = 2; pages <= 12; pages++) {
+            for (int handle = 0; handle < pages; handle++) {
+                Store x = Store.withMany(pages, pages, 16);
+                for (int kind = 0; kind < 4; kind++) {
+                    x.due(kind == 0 ? 16 : Store.LEAST_OF_KIND[kind - 1], "resize", handle, Store.LEAST_OF_KIND[kind]);
+                    x.due(pages, "needed");
+                    x.dueWords(handle, Store.marksOf(handle, 1, Store.LEAST_OF_KIND[kind]));
+                }
+                for (int other = 0; other < pages; other++) {
+                    if (other != handle) {
+                        x.dueMarked(other, 16);
+                    }
+                }
+            }
+        }
+    }
+
     /** What an object lost with a smaller size doesn't come back with a larger one. */
     private static void resizedWordsHold0Again() {
         for (int least = 1; least < 16; least++) {
@@ -640,17 +659,23 @@ public final class ChangesTest {
 
     /** Objects that were exchanged still move rightly where a gap is closed. */
     private static void exchangeThenFree() {
-        for (int freed = 0; freed < 9; freed++) {
-            for (int other = 0; other < 9; other++) {
-                Store x = Store.withMany(3, 9, 2);
-                x.due(0, "exchange", freed, other);
-                x.due(2, "free", freed);
-                x.due(1, "needed");
-                for (int handle = 0; handle < 9; handle++) {
-                    if (handle != freed) {
-                        x.dueMarkedAs(handle, handle == other ? freed : handle, 2);
-                    }
+        for (int a = 0; a < 9; a++) {
+            for (int b = 0; b < 9; b++) {
+                for (int freed = 0; freed < 9; freed++) {
+                    exchangeThenFree(a, b, freed);
                 }
+            }
+        }
+    }
+
+    private static void exchangeThenFree(int a, int b, int freed) {
+        Store x = Store.withMany(3, 9, 2);
+        x.due(0, "exchange", a, b);
+        x.due(2, "free", freed);
+        x.due(1, "needed");
+        for (int handle = 0; handle < 9; handle++) {
+            if (handle != freed) {
+                x.dueMarkedAs(handle, handle == a ? b : handle == b ? a : handle, 2);
             }
         }
     }
@@ -684,6 +709,7 @@ public final class ChangesTest {
         Sentence.holds("5: to a smaller size", ChangesTest::resizeToSmaller);
         Sentence.holds("5: to a larger size", ChangesTest::resizeToLarger);
         Sentence.holds("5: to the same size", ChangesTest::resizeToTheSame);
+        Sentence.holds("5: to another class when all pages are needed", ChangesTest::resizeWhenAllPagesAreNeeded);
         Sentence.holds("5: new ones hold 0, after a smaller size", ChangesTest::resizedWordsHold0Again);
         Sentence.holds("5: new ones hold 0, where others were freed", ChangesTest::resizedWordsHold0WhereFreedOnesDid);
         Sentence.holds("5: the handle stays", ChangesTest::resizeKeepsTheHandle);
