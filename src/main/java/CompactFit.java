@@ -11,12 +11,12 @@ public final class CompactFit {
 
     private final int pageCount;
     private final int[] words = new int[STORE_WORDS];
-    // The handle whose object begins at this word of the store, or NONE.
+    // Leads from a place back to its handle, so that an object can be moved; NONE where no object begins.
     private final int[] holder = new int[STORE_WORDS];
     // 0 says that no live object has the handle.
     private final int[] sizeOf = new int[HANDLES];
     private final int[] placeOf = new int[HANDLES];
-    // The class of a page in use, or NONE. At most one page of a class is not full.
+    // NONE for a page not in use. At most one page of a class is not full, so that none is wasted.
     private final int[] pageKind = new int[MOST_PAGES];
     // Keeps the words of an object that has left its place and has no new one yet.
     private final int[] spare = new int[MOST_SIZE];
@@ -305,7 +305,7 @@ public final class CompactFit {
         return objects;
     }
 
-    /** The pages needed if one object of the first class came and one of the second went; NONE for no object. */
+    // NONE stands for no object, so that one reckoning serves allocate, copy, resize and needed.
     private int neededAfter(int coming, int going) {
         int total = 0;
         for (int kind = 0; kind < KINDS; kind++) {
@@ -321,7 +321,7 @@ public final class CompactFit {
         return total;
     }
 
-    /** Gives the handle an object with a place in the store, for a caller that knows the pages to suffice. */
+    // The caller has seen that the pages suffice, so its class has a hole or a page is unused.
     private void settle(int handle, int size) {
         int kind = kindOf(size);
         int page = partPage(kind, NONE);
@@ -338,7 +338,7 @@ public final class CompactFit {
         putAt(handle, hole);
     }
 
-    /** Takes the object from the store and closes the gap that it leaves in its class. */
+    // The gap is closed at once: a second page that is not full would be wasted.
     private void vacate(int handle) {
         int hole = placeOf[handle];
         int page = hole / PAGE_WORDS;
@@ -362,7 +362,7 @@ public final class CompactFit {
         }
     }
 
-    /** Gives the object the first words that were kept; those beyond hold 0. */
+    // The place may have been another object's, so words that were not kept are cleared.
     private void restoreWords(int handle, int kept) {
         int size = sizeOf[handle];
         int place = placeOf[handle];
@@ -410,7 +410,7 @@ public final class CompactFit {
         return pageKind[page] == kind && heldOn(page) < perPage(kind);
     }
 
-    /** The first page of the class that is not full, leaving one page out of view; NONE if there is none. */
+    // One page can be left out of view, because a gap is not filled from its own page.
     private int partPage(int kind, int except) {
         for (int page = 0; page < pageCount; page++) {
             if (page != except && isPart(page, kind)) {

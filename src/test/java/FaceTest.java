@@ -1,6 +1,10 @@
+import java.io.IOException;
+import java.lang.reflect.Constructor;
 import java.lang.reflect.Field;
 import java.lang.reflect.Method;
 import java.lang.reflect.Modifier;
+import java.nio.file.Files;
+import java.nio.file.Path;
 import java.util.Arrays;
 import java.util.Set;
 import java.util.TreeSet;
@@ -61,14 +65,40 @@ public final class FaceTest {
         hold(CompactFit.class.getSuperclass() == Object.class, "the class extends nothing");
         hold(CompactFit.class.getInterfaces().length == 0, "the class implements nothing");
         hold(CompactFit.class.getDeclaredClasses().length == 0, "the class nests no other");
-        hold(CompactFit.class.getDeclaredConstructors().length == 1, "there is one constructor");
-        hold(CompactFit.class.getConstructors().length == 1, "the constructor is public");
     }
 
-    public static void main(String[] args) {
+    private static void checkConstructor() {
+        Constructor<?>[] made = CompactFit.class.getDeclaredConstructors();
+        hold(made.length == 1, "there is one constructor");
+        hold(Modifier.isPublic(made[0].getModifiers()), "the constructor is public");
+        hold(Arrays.equals(made[0].getParameterTypes(), new Class<?>[] {int.class}), "the constructor takes an int");
+    }
+
+    /** Names of parameters are seen in the source alone. */
+    private static void checkLines() throws IOException {
+        Set<String> asked = publicLines("../shared/DOC.md", ";");
+        Set<String> written = publicLines("src/main/java/CompactFit.java", " {");
+        asked.add("public final class CompactFit");
+        hold(written.equals(asked), "the public lines are " + asked + ", seen are " + written);
+    }
+
+    private static Set<String> publicLines(String file, String end) throws IOException {
+        Set<String> lines = new TreeSet<>();
+        for (String line : Files.readAllLines(Path.of(file))) {
+            String words = line.strip();
+            if (words.startsWith("public ") && words.endsWith(end)) {
+                lines.add(words.substring(0, words.length() - end.length()));
+            }
+        }
+        return lines;
+    }
+
+    public static void main(String[] args) throws IOException {
         checkClass();
+        checkConstructor();
         checkMethods();
         checkFields();
+        checkLines();
         System.out.println(wrong == 0 ? "the face is the document's" : wrong + " rules do not hold");
         if (wrong != 0) {
             System.exit(1);
